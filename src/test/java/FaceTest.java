@@ -1,0 +1,156 @@
+import java.io.IOException;
+import java.lang.reflect.Constructor;
+import java.lang.reflect.Field;
+import java.lang.reflect.Method;
+import java.lang.reflect.Modifier;
+import java.nio.file.Files;
+import java.nio.file.Path;
+import java.util.ArrayList;
+import java.util.Collections;
+import java.util.List;
+
+/** The face is the document's and no more, the source keeps to LANGUAGE.md, and no arguments make a call throw. */
+public final class FaceTest {
+    private static final String[] FACE = {
+        "alone(int)", "bestStake(int,int)", "canBe(int,int,int)", "canHear(int,int)", "depth(int,int,int)",
+        "drift(int)", "fault()", "feed(int,long)", "first(int,int)", "fits()", "goBack(int)", "hour(int)",
+        "inch(int,int)", "judge()", "keep(int)", "man(int,int)", "nobody(int)", "order(int,int)", "province()",
+        "saw(int,int)", "sawed(int,int,int)", "see(int,int,int)", "seed(int)", "stake(int,int,boolean)",
+        "tear()", "told(int)", "track(int,int)", "write(int,int)"};
+    private static final String[] CONSTANTS = {
+        "FULL = -1000000004", "NONE = -1", "NOT = -1000000003", "OUTSIDE = -1000000002", "UNKNOWN = -1000000001"};
+    private static final String[] FORBIDDEN = {
+        "throw", "throws", "try", "catch", "finally", "synchronized", "assert", "protected", "package", "Object",
+        "System.out", "Random", "Thread", "Exact", "hashCode", "toString", "->", "::"};
+    private static final int[] EDGES = {
+        Integer.MIN_VALUE, -1000000001, -2, -1, 0, 1, 2, 3, 4, 5, 6, 7, 8, 9, 20, 21, 35, 36, 40, 41, 99, 100, 500,
+        Integer.MAX_VALUE};
+
+    private static final Check CHECK = new Check();
+
+    public static void main(String[] args) throws ReflectiveOperationException, IOException {
+        methods();
+        constants();
+        members();
+        source();
+        edges();
+        CHECK.end();
+    }
+
+    private static void due(String what, boolean is) {
+        CHECK.due(what, is ? 1 : 0, 1);
+    }
+
+    private static String signature(Method m) {
+        List<String> types = new ArrayList<>();
+        for (Class<?> type : m.getParameterTypes()) {
+            types.add(type.getSimpleName());
+        }
+        return m.getName() + "(" + String.join(",", types) + ")";
+    }
+
+    private static void methods() {
+        List<String> found = new ArrayList<>();
+        for (Method m : StiltHeralds.class.getDeclaredMethods()) {
+            if (!Modifier.isPrivate(m.getModifiers())) {
+                found.add(signature(m));
+                due(m.getName() + " is public and answers an int",
+                    Modifier.isPublic(m.getModifiers()) && m.getReturnType() == int.class);
+            }
+        }
+        Collections.sort(found);
+        due("the methods are " + found, found.equals(List.of(FACE)));
+        Constructor<?>[] makers = StiltHeralds.class.getDeclaredConstructors();
+        due("one public constructor without parameters",
+            makers.length == 1 && Modifier.isPublic(makers[0].getModifiers()) && makers[0].getParameterCount() == 0);
+        due("public and final", Modifier.isPublic(StiltHeralds.class.getModifiers())
+            && Modifier.isFinal(StiltHeralds.class.getModifiers()));
+    }
+
+    private static void constants() throws ReflectiveOperationException {
+        List<String> found = new ArrayList<>();
+        for (Field f : StiltHeralds.class.getDeclaredFields()) {
+            if (!Modifier.isPrivate(f.getModifiers())) {
+                found.add(f.getName() + " = " + f.getInt(null));
+            }
+            due(f.getName() + ", if static, is final",
+                !Modifier.isStatic(f.getModifiers()) || Modifier.isFinal(f.getModifiers()));
+        }
+        Collections.sort(found);
+        due("the constants are " + found, found.equals(List.of(CONSTANTS)));
+    }
+
+    private static void members() {
+        List<String> names = new ArrayList<>();
+        for (String call : FACE) {
+            names.add(call.substring(0, call.indexOf('(')));
+        }
+        List<Class<?>> classes = new ArrayList<>(List.of(StiltHeralds.class.getDeclaredClasses()));
+        due("at most twelve classes", classes.size() <= 11);
+        for (Class<?> c : classes) {
+            due(c + " is static", Modifier.isStatic(c.getModifiers()));
+            for (Method m : c.getDeclaredMethods()) {
+                due(m + " has no name of the face", !names.contains(m.getName()));
+                due(m + " has at most seven parameters", m.getParameterCount() <= 7);
+            }
+            due(c + " has at most twenty fields", c.getDeclaredFields().length <= 20);
+        }
+        for (Method m : StiltHeralds.class.getDeclaredMethods()) {
+            due(m + " is of the face or has no name of it",
+                Modifier.isPublic(m.getModifiers()) || !names.contains(m.getName()));
+        }
+    }
+
+    /** The source without its comments, as these say what they like. */
+    private static void source() throws IOException {
+        String text = Files.readString(Path.of("src/main/java/StiltHeralds.java"));
+        String code = text.replaceAll("(?s)/\\*.*?\\*/", " ").replaceAll("//[^\n]*", " ");
+        for (String word : FORBIDDEN) {
+            boolean letters = Character.isLetter(word.charAt(0));
+            String pattern = letters ? "\\b" + word.replace(".", "\\.") + "\\b" : java.util.regex.Pattern.quote(word);
+            due("no " + word, !java.util.regex.Pattern.compile(pattern).matcher(code).find());
+        }
+        for (String line : text.split("\n")) {
+            due("import " + line, !line.startsWith("import ") || line.equals("import java.util.Arrays;"));
+        }
+        due("signs 1 to 127 alone", text.chars().allMatch(c -> c < 128));
+    }
+
+    private static void edges() throws ReflectiveOperationException {
+        String[] texts = {"", "land 1 1;", "land 9 4;tide 9,0;man 8 3 6;man 0 0 0;man 8 0 3;man 1 1 6;"
+            + "news 8 3;news 0 0;news 0 3;news 4 2;castle 8 0;"};
+        for (String text : texts) {
+            StiltHeralds x = Check.of(text);
+            for (Method m : StiltHeralds.class.getDeclaredMethods()) {
+                if (Modifier.isPublic(m.getModifiers()) && !m.getName().equals("province")) {
+                    callAtEdges(x, m, new Object[m.getParameterCount()], 0);
+                }
+            }
+            due("province behind all that is no text", x.province() <= 36);
+        }
+    }
+
+    private static void callAtEdges(StiltHeralds x, Method m, Object[] args, int k) throws ReflectiveOperationException {
+        if (k == args.length) {
+            m.invoke(x, args);
+            due("looks at all", x.told(0) >= 0);
+            return;
+        }
+        Class<?> type = m.getParameterTypes()[k];
+        if (type == boolean.class) {
+            args[k] = Boolean.TRUE;
+            callAtEdges(x, m, args, k + 1);
+            args[k] = Boolean.FALSE;
+            callAtEdges(x, m, args, k + 1);
+            return;
+        }
+        for (int edge : EDGES) {
+            if (type == long.class) {
+                args[k] = Long.valueOf(edge);
+            } else {
+                args[k] = Integer.valueOf(edge);
+            }
+            callAtEdges(x, m, args, k + 1);
+        }
+    }
+}
