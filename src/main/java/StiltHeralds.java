@@ -502,7 +502,7 @@ public final class StiltHeralds {
         }
 
         int tideOf(int hour) {
-            return tides > 0 ? Math.floorMod(hour, tides) : 0;
+            return tides > 0 && hour > 0 ? hour % tides : 0;
         }
 
         /** The depth that a cell has without a stake. */
@@ -511,7 +511,8 @@ public final class StiltHeralds {
             if (cell < 0 || cell >= depths.length || t >= tide.length) {
                 return 0;
             }
-            return Math.max(0, depths[cell] + tide[t] - CALM);
+            int depth = depths[cell] + tide[t] - CALM;
+            return depth < 0 ? 0 : depth;
         }
 
         /** Cells no deeper than a length at a tide, without stakes. */
@@ -699,7 +700,7 @@ public final class StiltHeralds {
         }
 
         private void skipBlanks() {
-            while (at < text.length && text.byteAt(at) == ' ') {
+            while (at < text.length && at < text.bytes.length && text.bytes[at] == ' ') {
                 at++;
             }
         }

@@ -180,6 +180,12 @@ public final class PromisesTest {
         fault("  lan 1 1;", 1, 2);
         fault("lands 1 1;", 1, 0);
         fault("LAND 1 1;", 1, 0);
+        fault("landz 1 1;", 1, 0);
+        fault("landa 1 1;", 1, 0);
+        fault("land{ 1 1;", 1, 4);
+        fault("land` 1 1;", 1, 4);
+        fault("land 1: 1;", 1, 6);
+        fault("land 1/ 1;", 1, 6);
         fault("landland 1 1;", 1, 0);
         fault("man 0 0 0;land 1 1;", 1, 0);
         fault("land", 1, 4);
@@ -627,6 +633,12 @@ public final class PromisesTest {
         x = Check.of("land 3 3;row 1 9,9,9;man 2 0 0;news 2 0;castle 2 2;");
         due("in the middle", x.bestStake(0, 0), 21);
         due("in the middle", x.bestStake(0, 1), 2);
+        x = Check.of("land 9 1;row 0 1,1,1,1,1,1,1,1,1;tide 5,5,5,5,5,4;man 0 0 0;news 0 0;castle 8 0;");
+        due("41 hours", x.bestStake(0, 0), NONE);
+        due("41 hours", x.bestStake(0, 1), NONE);
+        x.hour(1);
+        due("40 hours", x.bestStake(0, 0), 10);
+        due("40 hours", x.bestStake(0, 1), 40);
     }
 
     private void inch() {
@@ -665,6 +677,12 @@ public final class PromisesTest {
         due("not within 40", x.nobody(NONE), 2);
         x.hour(1);
         due("within 40", x.nobody(NONE), 1);
+        x = Check.of("land 9 1;row 0 1,1,1,1,1,1,1,1,1;tide 5,4,5,5,5,5;man 0 0 0;");
+        due("with the first hour", x.nobody(NONE), 1);
+        x.hour(2);
+        due("low water at 7 .. 37, and at 43, which is too late", x.nobody(NONE), 2);
+        x.hour(1);
+        due("at 43, which is the last hour from now", x.nobody(NONE), 1);
     }
 
     private void alone() {
