@@ -570,7 +570,9 @@ public final class StiltHeralds {
             rowsTold = 0;
             tideTold = false;
             castleTold = false;
-            if (text.length > 0) {
+            skipBlanks();
+            // blanks tell nothing: a text of nothing else is an empty one
+            if (at < text.length) {
                 readLand();
                 skipBlanks();
                 // every round reads a byte at least or finds a fault

@@ -124,9 +124,9 @@ final class Model {
 
     private Told read(String s) throws Fault {
         Told p = new Told();
-        if (s.isEmpty()) return p;
         tokens = cut(s);
         next = 0;
+        if (tokens.get(0).kind == 'e') return p;
         if (!tokens.get(0).s.equals("land")) throw new Fault(1, tokens.get(0).at);
         next = 1;
         p.w = number(1, 9);

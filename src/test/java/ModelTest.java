@@ -145,6 +145,10 @@ public final class ModelTest {
         lookAtAll();
         province(spoiled(land()));
         lookAtAll();
+        if (draw(8) == 0) {
+            province(blanks());
+            lookAtAll();
+        }
     }
 
     private void callRun(int number) {

@@ -17,6 +17,7 @@ public final class PromisesTest {
         t.newObject();
         t.feed();
         t.province();
+        t.provinceOfBlanks();
         t.whatProvinceClears();
         t.faults();
         t.textsWithoutFault();
@@ -110,8 +111,8 @@ public final class PromisesTest {
         due("feed up to 500", x.feed(4, 0x20202020), 500);
         due("feed beyond 500", x.feed(1, 32), FULL);
         due("still 500", x.told(5), 500);
-        due("500 blanks", x.province(), -11);
-        due("500 blanks", x.fault(), 500);
+        due("500 blanks are an empty text", x.province(), 0);
+        due("500 blanks have no fault", x.fault(), NONE);
     }
 
     private void province() {
@@ -132,6 +133,34 @@ public final class PromisesTest {
         due("depths untold are 0 again", Check.province(x, "land 2 1;row 0 4,4;"), 2);
         due("depths untold are 0 again", Check.province(x, "land 2 1;"), 2);
         due("depths untold are 0 again", x.depth(1, 0, 0), 0);
+    }
+
+    /** Blanks tell nothing, so a text of blanks alone is as an empty one; no other byte is as a blank. */
+    private void provinceOfBlanks() {
+        for (String blanks : new String[] {"", " ", "  ", "         "}) {
+            StiltHeralds x = Check.of(DITCH);
+            x.keep(0);
+            x.write(0, 1);
+            due("a fault ahead", Check.province(x, " ;"), -11);
+            due("a fault ahead", x.fault(), 1);
+            due("blanks", Check.province(x, blanks), 0);
+            due("blanks: no fault", x.fault(), NONE);
+            due("blanks: no cells", x.told(0) + x.told(1), 0);
+            due("blanks: no men", x.told(3), 0);
+            due("blanks: no news", x.told(4), 0);
+            due("blanks: no text", x.told(5), 0);
+            due("blanks: no book", x.told(9), 0);
+            due("blanks: no image", x.goBack(0), NOT);
+            due("blanks: no hour", x.hour(1), NOT);
+            due("blanks: land behind them", Check.province(x, blanks + "land 2 1;" + blanks), 2);
+        }
+        StiltHeralds x = new StiltHeralds();
+        for (int sign : new int[] {0, 9, 10, 13, 31, 33, 160, 255}) {
+            due("no blank: " + sign, Check.province(x, " " + (char) sign + " "), -11);
+            due("no blank: " + sign, x.fault(), 1);
+        }
+        due("a word alone", Check.province(x, "  land  "), -11);
+        due("a word alone", x.fault(), 8);
     }
 
     private void whatProvinceClears() {
@@ -175,7 +204,6 @@ public final class PromisesTest {
     }
 
     private void faults() {
-        fault("   ", 1, 3);
         fault("; land 1 1;", 1, 0);
         fault("  lan 1 1;", 1, 2);
         fault("lands 1 1;", 1, 0);
