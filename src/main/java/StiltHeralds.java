@@ -26,6 +26,8 @@ public final class StiltHeralds {
     private static final int MAX_SEEN = 20;
     private static final int MAX_BOOK = 40;
     private static final int IMAGES = 2;
+    /** 2 to the 31 less 1: all bits that a seed has, so a mask leaves over by 2 to the 31. */
+    private static final int MAX_SEED = 2147483647;
 
     private final Text text = new Text();
     private final Land land = new Land();
@@ -860,7 +862,7 @@ public final class StiltHeralds {
 
         void orderByDraws() {
             for (int m = 0; m < land.men; m++) {
-                seed = (int) ((seed * 1103515245L + 12345) & Integer.MAX_VALUE);
+                seed = (int) ((seed * 1103515245L + 12345) & MAX_SEED);
                 ordered[m] = seed / 65536 % (MAX_WAY + 1);
             }
         }

@@ -411,6 +411,8 @@ public final class BooksSentencesTest extends Sentences {
             x.saw(1, 0);
             x.seed(32);
             x.drift(50);
+            x.order(0, 3);
+            x.order(1, 3);
             due("goBack", x.goBack(i), 1);
             due("the hour", x.told(6), 1);
             int[][] want = {{0, 0, 2, 1, 0, 0, 4}, {1, 1, 5, 0, 0, 0, 2}};

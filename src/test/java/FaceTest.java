@@ -8,6 +8,8 @@ import java.nio.file.Path;
 import java.util.ArrayList;
 import java.util.Collections;
 import java.util.List;
+import java.util.regex.Matcher;
+import java.util.regex.Pattern;
 
 /** The face is the document's and no more, the source keeps to LANGUAGE.md, and no arguments make a call throw. */
 public final class FaceTest {
@@ -22,6 +24,9 @@ public final class FaceTest {
     private static final String[] FORBIDDEN = {
         "throw", "throws", "try", "catch", "finally", "synchronized", "assert", "protected", "package", "Object",
         "System.out", "Random", "Thread", "Exact", "hashCode", "toString", "->", "::"};
+    private static final List<String> LIBRARY = List.of(
+        "Arrays.fill", "Arrays.copyOf", "Arrays.copyOfRange", "System.arraycopy", "Math.max", "Math.min", "Math.abs",
+        "Math.floorMod", "Math.floorDiv", "Long.bitCount", "Integer.bitCount");
     private static final int[] EDGES = {
         Integer.MIN_VALUE, -1000000001, -2, -1, 0, 1, 2, 3, 4, 5, 6, 7, 8, 9, 20, 21, 35, 36, 40, 41, 99, 100, 500,
         Integer.MAX_VALUE};
@@ -33,6 +38,8 @@ public final class FaceTest {
         constants();
         members();
         source();
+        library();
+        methodsAreShort();
         edges();
         CHECK.end();
     }
@@ -96,24 +103,69 @@ public final class FaceTest {
             due(c + " has at most twenty fields", c.getDeclaredFields().length <= 20);
         }
         for (Method m : StiltHeralds.class.getDeclaredMethods()) {
+            due(m + " has at most seven parameters", m.getParameterCount() <= 7);
             due(m + " is of the face or has no name of it",
                 Modifier.isPublic(m.getModifiers()) || !names.contains(m.getName()));
         }
     }
 
+    private static String text() throws IOException {
+        return Files.readString(Path.of("src/main/java/StiltHeralds.java"));
+    }
+
     /** The source without its comments, as these say what they like. */
+    private static String code() throws IOException {
+        return text().replaceAll("(?s)/\\*.*?\\*/", " ").replaceAll("//[^\n]*", " ");
+    }
+
     private static void source() throws IOException {
-        String text = Files.readString(Path.of("src/main/java/StiltHeralds.java"));
-        String code = text.replaceAll("(?s)/\\*.*?\\*/", " ").replaceAll("//[^\n]*", " ");
+        String text = text();
+        String code = code();
         for (String word : FORBIDDEN) {
             boolean letters = Character.isLetter(word.charAt(0));
-            String pattern = letters ? "\\b" + word.replace(".", "\\.") + "\\b" : java.util.regex.Pattern.quote(word);
-            due("no " + word, !java.util.regex.Pattern.compile(pattern).matcher(code).find());
+            String pattern = letters ? "\\b" + word.replace(".", "\\.") + "\\b" : Pattern.quote(word);
+            due("no " + word, !Pattern.compile(pattern).matcher(code).find());
         }
         for (String line : text.split("\n")) {
             due("import " + line, !line.startsWith("import ") || line.equals("import java.util.Arrays;"));
         }
         due("signs 1 to 127 alone", text.chars().allMatch(c -> c < 128));
+    }
+
+    private static boolean finds(String pattern, String code) {
+        return Pattern.compile(pattern).matcher(code).find();
+    }
+
+    /** Rules 4, 5, 9 and 10. */
+    private static void library() throws IOException {
+        String code = code();
+        Matcher used = Pattern.compile("\\b(Arrays|System|Math|Long|Integer|String|List)\\.\\w+").matcher(code);
+        while (used.find()) {
+            due("the library has " + used.group(), LIBRARY.contains(used.group()));
+        }
+        due("no text is joined by +", !finds("\"\\s*\\+|\\+\\s*\"", code));
+        due("no static block", !finds("\\bstatic\\s*\\{", code));
+        due("no loop without an end", !finds("while \\(true\\)|for \\(;;\\)", code));
+        due("no array of arrays", !finds("\\]\\s*\\[\\s*\\]", code));
+    }
+
+    /** Rule 11: from a method's head to the brace below it. */
+    private static void methodsAreShort() throws IOException {
+        String[] lines = text().split("\n");
+        int methods = 0;
+        for (int i = 0; i < lines.length; i++) {
+            boolean head = lines[i].matches(" {4}( {4})?[a-zA-Z][\\w\\[\\] ]*\\([^()]*\\) \\{") && !lines[i].contains(" class ");
+            if (head && !lines[i].trim().matches("(if|for|while|switch) .*")) {
+                String end = lines[i].replaceAll("\\S.*", "") + "}";
+                int last = i;
+                while (last < lines.length && !lines[last].equals(end)) {
+                    last++;
+                }
+                methods++;
+                due(lines[i].trim() + " has at most sixty lines", last - i < 60);
+            }
+        }
+        due("methods were found", methods > 80);
     }
 
     private static void edges() throws ReflectiveOperationException {

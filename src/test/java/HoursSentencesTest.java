@@ -245,6 +245,26 @@ public final class HoursSentencesTest extends Sentences {
         due("he went away", x.man(0, 3), 3);
     }
 
+    public void sharingBothWays() {
+        says("all that one of them knows");
+        for (int knows = 0; knows < 4; knows++) {
+            StringBuilder text = new StringBuilder("land 3 1;news 0 0;castle 1 0;");
+            for (int m = 0; m < 4; m++) {
+                text.append(m == knows ? "man 0 0 0;" : "man 1 0 0;");
+            }
+            StiltHeralds x = of(text.toString());
+            for (int m = 0; m < 4; m++) {
+                due("man " + m + " ahead of it", x.man(m, 3), m == knows ? 1 : 0);
+            }
+            x.order(knows, 2);
+            x.hour(1);
+            for (int m = 0; m < 4; m++) {
+                due("man " + m + " told by " + knows, x.man(m, 3), 1);
+            }
+            due("at the castle", x.told(10), 1);
+        }
+    }
+
     public void passing() {
         says("each goes his way: what was ordered for it");
         StiltHeralds x = of("land 4 1;man 1 0 0;man 2 0 0;news 1 0;");

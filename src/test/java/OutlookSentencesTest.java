@@ -280,6 +280,37 @@ public final class OutlookSentencesTest extends Sentences {
         due("40 hours with the best", x.bestStake(0, 1), 40);
     }
 
+    public void asItIsNow() {
+        says("From now, with any orders");
+        String text = "land 4 1;row 0 0,2,4,0;man 0 0 3;man 3 0 0;news 0 0;news 3 0;castle 3 0;";
+        due("the first call: nobody", of(text).nobody(NONE), 1);
+        due("the first call: alone", of(text).alone(0), 2);
+        due("the first call: bestStake", of(text).bestStake(0, 0), 20);
+        due("the first call: bestStake", of(text).bestStake(0, 1), 3);
+        due("the first call: canBe", of(text).canBe(0, 1, 0), 1);
+        due("the first call: canHear", of(text).canHear(0, 1), NONE);
+        due("the first call: inch", of(text).inch(0, 0), 38);
+        StiltHeralds x = of(text);
+        x.stake(2, 0, true);
+        due("the first call, with a stake: sawed", x.sawed(0, 20, NONE), 2);
+        x = of(text);
+        x.stake(2, 0, true);
+        due("the first call, with a stake: nobody", x.nobody(NONE), 0);
+        due("then bestStake", x.bestStake(0, 1), 3);
+        x.saw(0, 1);
+        due("sawed since: nobody", x.nobody(NONE), 1);
+        due("sawed since: alone", x.alone(0), 1);
+        due("sawed since: bestStake", x.bestStake(0, 0), 10);
+        x.stake(2, 0, false);
+        due("no stake since: nobody", x.nobody(NONE), 2);
+        due("no stake since: alone", x.alone(1), 1);
+        due("no stake since: never by any", x.bestStake(0, 0), NONE);
+        due("no stake since: never by any", x.bestStake(0, 1), NONE);
+        due("no stake since: sawed", x.sawed(0, 20, NONE), 0);
+        due("no stake since: the other news", x.bestStake(1, 0), 0);
+        due("no stake since: first", x.first(0, 0), NONE);
+    }
+
     public void bestStakeRefusals() {
         says("Best STAKE: what = 0 the CELL (10 times X and Y), 1 how soon; NONE. UNKNOWN, OUTSIDE, NOT: no CELLS.");
         StiltHeralds x = of("land 2 1;man 0 0 0;news 0 0;news 1 0;castle 1 0;");
@@ -348,6 +379,21 @@ public final class OutlookSentencesTest extends Sentences {
         StiltHeralds both = of(SLOW + "man 0 0 0;man 8 0 0;");
         due("the other can", both.nobody(NONE), 0);
         due("the other can", both.nobody(0), NONE);
+    }
+
+    public void theFirstHourAndTheLast() {
+        says("within 40 hours");
+        StiltHeralds x = of(SLOW.replace("5,5,5,5,5,4", "5,4,5,5,5,5") + "man 0 0 0;");
+        due("low water in an hour, the seventh in 37: eight cells", x.nobody(NONE), 1);
+        due("he alone can be on all of them", x.alone(0), 8);
+        due("in an hour", x.canBe(0, 1, 0), 1);
+        x = of(SLOW.replace("5,5,5,5,5,4", "4,5,5,5,5,5") + "man 0 0 0;");
+        due("low water now is of no use, the sixth is in 36", x.nobody(NONE), 2);
+        due("low water now is of no use, the sixth is in 36", x.alone(0), 7);
+        due("in six hours", x.canBe(0, 1, 0), 6);
+        x.hour(2);
+        due("the seventh is in 40", x.nobody(NONE), 1);
+        due("the seventh is in 40", x.alone(0), 8);
     }
 
     public void nobodyInOrder() {

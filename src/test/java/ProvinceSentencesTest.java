@@ -589,6 +589,7 @@ public final class ProvinceSentencesTest extends Sentences {
             due("empty: no man", x.man(0, 0), UNKNOWN);
             due("empty: no news", x.first(0, 0), UNKNOWN);
             due("empty: no hours", x.hour(1), NOT);
+            due("empty: nobody's cells", x.nobody(NONE), 0);
             due("empty: a new one", Check.province(x, ALL), 4);
         }
     }
@@ -598,8 +599,11 @@ public final class ProvinceSentencesTest extends Sentences {
     public void newObject() {
         says("`StiltHeralds()`: No CELLS.");
         StiltHeralds x = new StiltHeralds();
-        due("W", x.told(0), 0);
-        due("H", x.told(1), 0);
+        int[] want = {0, 0, 1, 0, 0, 0, 0, 0, 0, 0, 0};
+        for (int what = 0; what < want.length; what++) {
+            due("told(" + what + ")", x.told(what), want[what]);
+        }
+        due("no fault", x.fault(), NONE);
         due("nobody", x.nobody(NONE), 0);
         due("a cell", x.depth(0, 0, 0), UNKNOWN);
         due("an hour", x.hour(1), NOT);
@@ -704,6 +708,43 @@ public final class ProvinceSentencesTest extends Sentences {
             }
         }
         due("the seed stays", x.seed(0), 2147483647);
+    }
+
+    public void menBeginAnew() {
+        says("HOUR 0, no orders");
+        String text = "land 2 1;row 0 3,0;man 0 0 1;man 1 0 1;news 1 0;";
+        StiltHeralds x = of(text);
+        x.hour(9);
+        due("nine hours of wet knees", x.man(0, 4), 9);
+        due("he heard", x.man(1, 3), 1);
+        Check.province(x, "land 2 1;row 0 3,0;man 0 0 1;man 1 0 1;news 0 0;");
+        due("no wet knees", x.man(0, 4), 0);
+        due("what he heard is forgotten", x.man(1, 3), 0);
+        x.hour(1);
+        due("an hour of wet knees", x.man(0, 4), 1);
+    }
+
+    /** A lesser land behind a greater one, and the other way round: nothing of the one is left in the other. */
+    public void anotherLand() {
+        says("THE TEXT (it is empty then) becomes THE PROVINCE");
+        StiltHeralds x = of("land 9 4;row 3 9,9,9,9,9,9,9,9,9;tide 9,9,9,9,9,9;man 8 3 6;man 0 0 6;news 8 3;castle 8 3;");
+        Check.province(x, "land 2 2;row 0 9,0;row 1 0,9;man 1 0 0;");
+        due("nobody's cells", x.nobody(NONE), 3);
+        due("nobody's first cell", x.nobody(0), 0);
+        due("nobody's last cell", x.nobody(2), 11);
+        due("nobody has more", x.nobody(3), NONE);
+        due("rows end where they end now", x.canBe(0, 0, 1), NONE);
+        due("one man", x.told(3), 1);
+        due("no news", x.told(4), 0);
+        Check.province(x, "land 2 2;row 0 9,0;row 1 0,9;man 0 1 0;");
+        due("rows end where they end now", x.canBe(0, 1, 0), NONE);
+        Check.province(x, "land 1 3;man 0 0 0;");
+        due("three in a row", x.canBe(0, 0, 2), 2);
+        Check.province(x, "land 9 4;man 0 0 0;");
+        due("the greater one again", x.canBe(0, 8, 3), 11);
+        due("the greater one again", x.nobody(NONE), 0);
+        Check.province(x, "");
+        due("none at all", x.nobody(NONE), 0);
     }
 
     public void faultOfTheLatest() {

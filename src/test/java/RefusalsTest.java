@@ -115,6 +115,7 @@ public final class RefusalsTest extends Sentences {
         }
         seen.add(x.fits());
         seen.add(x.judge());
+        seen.add(x.nobody(NONE));
         int seed = x.seed(0);
         x.seed(seed);
         seen.add(seed);
@@ -331,29 +332,46 @@ public final class RefusalsTest extends Sentences {
         return x;
     }
 
+    /** All that only asks. */
+    private static List<Call> questions() {
+        List<Call> all = new ArrayList<>();
+        for (int news = 0; news < 2; news++) {
+            int k = news;
+            all.add((x, a) -> x.bestStake(k, 0));
+            all.add((x, a) -> x.bestStake(k, 1));
+            all.add((x, a) -> x.first(k, 0));
+            all.add((x, a) -> x.first(k, 1));
+            all.add((x, a) -> x.sawed(k, 20, NONE));
+            for (int man = 0; man < 3; man++) {
+                int m = man;
+                all.add((x, a) -> x.sawed(k, 9, m));
+                all.add((x, a) -> x.inch(k, m));
+                all.add((x, a) -> x.canHear(m, k));
+                all.add((x, a) -> x.canBe(m, 3, 2 * k));
+                all.add((x, a) -> x.alone(m));
+            }
+        }
+        all.add((x, a) -> x.nobody(NONE));
+        all.add((x, a) -> x.nobody(0));
+        all.add((x, a) -> x.fits());
+        all.add((x, a) -> x.judge());
+        all.add((x, a) -> x.fault());
+        return all;
+    }
+
     public void whatIsAskedChangesNothing() {
         says("What is refused changes nothing.");
-        Scene[] scenes = {RefusalsTest::busy, RefusalsTest::full};
-        for (Scene scene : scenes) {
-            List<Integer> twin = allOf(scene.make());
+        List<Call> questions = questions();
+        int[] no = {};
+        for (Scene scene : new Scene[] {RefusalsTest::busy, RefusalsTest::full, RefusalsTest::bare}) {
             StiltHeralds x = scene.make();
-            for (int news = 0; news < 2; news++) {
-                x.bestStake(news, 0);
-                x.first(news, 1);
-                for (int m = 0; m < 3; m++) {
-                    x.sawed(news, 20, m);
-                    x.inch(news, m);
-                    x.canHear(m, news);
-                    x.canBe(m, 3, 2);
-                    x.alone(m);
-                }
+            for (int i = 0; i < questions.size() * 2; i++) {
+                // forth and back, so that each one stands behind each other one
+                int k = i < questions.size() ? i : questions.size() * 2 - 1 - i;
+                due("question " + k + " as if it were the first", questions.get(k).on(x, no),
+                    questions.get(k).on(scene.make(), no));
             }
-            x.nobody(NONE);
-            x.nobody(0);
-            x.fits();
-            x.judge();
-            x.fault();
-            sameAsTwin("what only asks changes nothing either", x, twin);
+            sameAsTwin("what only asks changes nothing either", x, allOf(scene.make()));
         }
     }
 }
