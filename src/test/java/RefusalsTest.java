@@ -103,15 +103,16 @@ public final class RefusalsTest extends Sentences {
         for (int what = 0; what <= 10; what++) {
             seen.add(x.told(what));
         }
-        for (int m = 0; m < x.told(3); m++) {
+        int men = x.told(3);
+        for (int m = 0; m < men; m++) {
             for (int what = 0; what <= 6; what++) {
                 seen.add(x.man(m, what));
             }
         }
-        for (int y = 0; y < x.told(1); y++) {
-            for (int cx = 0; cx < x.told(0); cx++) {
-                seen.add(x.depth(cx, y, 1));
-            }
+        int w = x.told(0);
+        int cells = w * x.told(1);
+        for (int i = 0; i < cells; i++) {
+            seen.add(x.depth(i % w, i / w, 1));
         }
         seen.add(x.fits());
         seen.add(x.judge());
@@ -122,10 +123,10 @@ public final class RefusalsTest extends Sentences {
     }
 
     private static void lookForStakes(StiltHeralds x, List<Integer> seen) {
-        for (int y = 0; y < x.told(1); y++) {
-            for (int cx = 0; cx < x.told(0); cx++) {
-                seen.add(x.stake(cx, y, false));
-            }
+        int w = x.told(0);
+        int cells = w * x.told(1);
+        for (int i = 0; i < cells; i++) {
+            seen.add(x.stake(i % w, i / w, false));
         }
     }
 
