@@ -28,6 +28,20 @@ public final class BooksSentencesTest extends Sentences {
         due("the 20th counts", x.fits(), 0);
     }
 
+    public void somebodyUnknown() {
+        says("somebody unknown, on STILTS of unknown length, who begins on a CELL");
+        String land = "land 4 1;row 0 0,2,4,6;";
+        for (String men : new String[] {"", "man 0 0 0;", "man 3 0 6;man 0 0 1;", "man 0 0 0;man 0 0 2;man 0 0 4;man 0 0 6;"}) {
+            StiltHeralds x = of(land + men);
+            x.track(0, 0);
+            for (int cx = 1; cx < 4; cx++) {
+                x.see(cx, 0, cx);
+                due("he is none of the men: over " + 2 * cx, x.fits(), 127 >> 2 * cx << 2 * cx);
+            }
+            due("no man went", x.told(3) == 0 ? 0 : x.man(0, 4), 0);
+        }
+    }
+
     public void behindHours() {
         says("is on a CELL behind n hours (0 .. 40)");
         bounds("n", 0, 40, OUTSIDE, v -> of("land 1 1;").see(0, 0, v));
@@ -310,7 +324,7 @@ public final class BooksSentencesTest extends Sentences {
     }
 
     public void seedAtFirst() {
-        says("THE SEED (0 at first: each DRAW it becomes it times 1103515245 and 12345, left over by 2 to the 31;");
+        says("BY DRAWS: THE SEED (0 at first: each DRAW it becomes it times 1103515245 and 12345, left over by 2 to the 31;");
         due("0 at first", new StiltHeralds().seed(0), 0);
         for (int seed : new int[] {0, 1, 2, 65535, 65536, 1073741823, 1073741824, 2147483646, 2147483647}) {
             StiltHeralds x = of("land 1 1;man 0 0 0;");
@@ -329,6 +343,18 @@ public final class BooksSentencesTest extends Sentences {
             inverse = inverse * (2 - 1103515245L * inverse);
         }
         return (int) (Math.floorMod((next - 12345L) * inverse, MODULUS));
+    }
+
+    public void cutsTowardsNought() {
+        says("All numbers are whole; / cuts towards 0.");
+        for (int way = 0; way <= 4; way++) {
+            for (long over : new long[] {0, 1, 32767, 32768, 65535}) {
+                StiltHeralds x = of("land 1 1;man 0 0 0;");
+                x.seed(seedAhead(way * 65536L + over));
+                x.drift(1);
+                due("what is left over is cut", x.man(0, 6), way);
+            }
+        }
     }
 
     public void drawOfN() {

@@ -84,6 +84,44 @@ public final class HoursSentencesTest extends Sentences {
         }
     }
 
+    public void staysOrSteps() {
+        says("In an hour a MAN stays, or STEPS to a CELL beside his");
+        for (int way = 0; way <= 4; way++) {
+            StiltHeralds x = of("land 9 4;man 4 2 0;");
+            x.order(0, way);
+            x.hour(1);
+            place("one cell an hour, way " + way, x, 0, 4 + DX[way], 2 + DY[way]);
+        }
+        StiltHeralds x = of("land 9 4;man 4 2 6;");
+        for (int i = 0; i < 36; i++) {
+            int far = Math.abs(i % 9 - 4) + Math.abs(i / 9 - 2);
+            due("none is gone to aslant", x.canBe(0, i % 9, i / 9), far);
+        }
+    }
+
+    public void waysAsTold() {
+        says("AN HOUR goes by: each goes his way: what was ordered for it (0 stays, 1 .. 4 as told; "
+            + "one that may not be: he stays)");
+        StiltHeralds x = of("land 5 5;man 2 2 0;man 2 2 0;man 2 2 0;man 2 2 0;");
+        for (int m = 0; m < 4; m++) {
+            x.order(m, m + 1);
+        }
+        for (int hour = 1; hour <= 4; hour++) {
+            x.hour(1);
+            int by = Math.min(2, hour);
+            for (int m = 0; m < 4; m++) {
+                place("each his own way, hour " + hour, x, m, 2 + by * DX[m + 1], 2 + by * DY[m + 1]);
+            }
+        }
+        for (int m = 0; m < 4; m++) {
+            x.order(m, 0);
+        }
+        x.hour(9);
+        for (int m = 0; m < 4; m++) {
+            place("all stay", x, m, 2 + 2 * DX[m + 1], 2 + 2 * DY[m + 1]);
+        }
+    }
+
     public void noDeeperThanStilts() {
         says("if the DEPTH there at the hour that comes is no more than his STILTS");
         for (int stilts = 0; stilts <= 6; stilts++) {
@@ -387,7 +425,9 @@ public final class HoursSentencesTest extends Sentences {
     }
 
     public void driftHours() {
-        says("n HOURS (1 .. 99) BY DRAWS: THE HOUR.");
+        says("n HOURS (1 .. 99) BY DRAWS: THE HOUR. OUTSIDE, NOT: no CELLS.");
+        bounds("drift", 1, 99, OUTSIDE, v -> of("land 1 1;man 0 0 0;").drift(v));
+        due("no cells", new StiltHeralds().drift(1), NOT);
         StiltHeralds x = of("land 3 3;man 1 1 6;");
         due("one", x.drift(1), 1);
         due("99", x.drift(99), 100);

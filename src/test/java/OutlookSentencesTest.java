@@ -56,6 +56,26 @@ public final class OutlookSentencesTest extends Sentences {
         due("he is at the castle", x.first(0, 1), 0);
     }
 
+    public void withSomeHoursFromNow() {
+        says("A MAN CAN BE on a CELL WITH a NEWS, n hours from now:");
+        for (int castle = 0; castle <= 6; castle++) {
+            StiltHeralds x = of("land 7 1;man 2 0 0;news 4 0;castle " + castle + " 0;");
+            due("to the news, then to " + castle, x.first(0, 0), 2 + Math.abs(castle - 4));
+            due("he hears it first", x.canHear(0, 0), 2);
+            x.order(0, 2);
+            x.hour(3);
+            due("with it at 5 0, to " + castle, x.first(0, 0), Math.abs(castle - 5));
+            due("he has heard it", x.canHear(0, 0), 0);
+        }
+        StiltHeralds two = of("land 7 1;man 2 0 0;news 3 0;news 1 0;castle 2 0;");
+        due("each news by itself", two.first(0, 0), 2);
+        due("each news by itself", two.first(1, 0), 2);
+        two.order(0, 2);
+        two.hour(1);
+        due("this one he has", two.first(0, 0), 1);
+        due("that one he has not", two.first(1, 0), 3);
+    }
+
     public void withAtTheCellOfNews() {
         says("or he CAN BE there then, and it is the CELL of the NEWS");
         StiltHeralds x = of("land 4 1;man 0 0 0;man 3 0 0;news 2 0;castle 2 0;");
@@ -186,7 +206,7 @@ public final class OutlookSentencesTest extends Sentences {
     }
 
     public void sawedToNoughtAtLeast() {
-        says("STILTS of MEN made shorter by whole inches (as they are less, 0 at least)");
+        says("SAWED: STILTS of MEN made shorter by whole inches (as they are less, 0 at least)");
         for (int stilts = 0; stilts <= 6; stilts++) {
             StiltHeralds x = of("land 3 1;row 0 0,1,0;man 0 0 " + stilts + ";news 0 0;castle 2 0;");
             due("down to 0", x.sawed(0, 20, NONE), stilts);

@@ -154,6 +154,49 @@ public final class ProvinceSentencesTest extends Sentences {
         }
     }
 
+    public void rowAsItStands() {
+        says("'row' Y D {',' D} ';' (depths of the CELLS of a row");
+        good("land 1 3;row 2 7;", 3);
+        due("Y first, then the depth", of("land 1 3;row 2 7;").depth(0, 2, 0), 7);
+        StiltHeralds x = of("land 4 2;row 1 6,7,8,9;row 0 2,3,4,5;");
+        for (int i = 0; i < 8; i++) {
+            due("X rising, each in its row", x.depth(i % 4, i / 4, 0), 2 + i);
+        }
+        bad("land 2 2;row;", 1, 12);
+        bad("land 2 2;row ,", 1, 13);
+        bad("land 2 2;row 0,", 1, 14);
+        bad("land 2 2;row 0,1,1;", 1, 14);
+        bad("land 2 2;row 0 1;1;", 1, 16);
+        bad("land 2 2;row 0 1,1", 1, 18);
+        bad("land 2 2;row 0 1,1 row 1 1,1;", 1, 19);
+    }
+
+    public void tideAsItStands() {
+        says("'tide' T {',' T} ';'");
+        StiltHeralds x = of("land 1 1;row 0 5;tide 1,9,3;");
+        int[] deep = {1, 9, 3, 1, 9, 3};
+        for (int n = 0; n < deep.length; n++) {
+            due("the hours in their order", x.depth(0, 0, n), deep[n]);
+        }
+        bad("land 1 1;tide 5", 1, 15);
+        bad("land 1 1;tide 5 man 0 0 0;", 1, 16);
+        bad("land 1 1;tide 5,,5;", 1, 16);
+        bad("land 1 1;tide 5;5;", 1, 16);
+    }
+
+    public void manAsHeStands() {
+        says("'man' X Y L ';' (4 MEN at most: L the length of his STILTS, 0 .. 6)");
+        StiltHeralds x = of("land 9 4;man 7 2 5;");
+        due("X, Y, L", x.man(0, 0) * 100 + x.man(0, 1) * 10 + x.man(0, 2), 725);
+        bad("land 9 4;man;", 1, 12);
+        bad("land 9 4;man 7;", 1, 14);
+        bad("land 9 4;man 7 2;", 1, 16);
+        bad("land 9 4;man 7,2,5;", 1, 14);
+        bad("land 9 4;man 7 2 5", 1, 18);
+        bad("land 9 4;man 7 2 5,", 1, 18);
+        bad("land 9 4;man 7 2 5 5;", 1, 19);
+    }
+
     public void depthsOfARow() {
         says("(depths of the CELLS of a row, W of them, 0 .. 9 each; 0 untold; each Y once)");
         for (int w = 1; w <= 9; w++) {
@@ -250,7 +293,7 @@ public final class ProvinceSentencesTest extends Sentences {
     }
 
     public void tideUntold() {
-        says("5 untold");
+        says("5 untold; once)");
         StiltHeralds x = of("land 1 1;row 0 7;");
         due("one hour", x.told(2), 1);
         due("now", x.depth(0, 0, 0), 7);
@@ -261,6 +304,7 @@ public final class ProvinceSentencesTest extends Sentences {
         for (int n = 0; n <= 6; n++) {
             due("untold again, at " + n, x.depth(0, 0, n), 7);
         }
+        bad("land 1 1;tide 5;tide 5;", 3, 16);
     }
 
     public void tideOnce() {
@@ -474,7 +518,7 @@ public final class ProvinceSentencesTest extends Sentences {
     // ---- faults
 
     public void theFirstByte() {
-        says("at the first byte that has one (the end at the text's length)");
+        says("FAULTS, at the first byte that has one (the end at the text's length), of these the least:");
         bad("land 2 2;row 0 10,99,1;row 0 1;pond;", 2, 15);
         bad("land 2 2;pond;land 99 99;", 1, 9);
         bad("land 2 2;land 99 99;", 3, 9);
