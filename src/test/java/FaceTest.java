@@ -8,6 +8,8 @@ import java.nio.file.Path;
 import java.util.ArrayList;
 import java.util.Collections;
 import java.util.List;
+import java.util.Map;
+import java.util.TreeMap;
 import java.util.regex.Matcher;
 import java.util.regex.Pattern;
 
@@ -149,23 +151,57 @@ public final class FaceTest {
         due("no array of arrays", !finds("\\]\\s*\\[\\s*\\]", code));
     }
 
-    /** Rule 11: from a method's head to the brace below it. */
-    private static void methodsAreShort() throws IOException {
-        String[] lines = text().split("\n");
-        int methods = 0;
+    /** By name: the bodies of all methods and constructors, from the head to the brace below it. */
+    private static Map<String, List<String>> bodies() throws IOException {
+        Map<String, List<String>> found = new TreeMap<>();
+        String[] lines = code().split("\n");
         for (int i = 0; i < lines.length; i++) {
             boolean head = lines[i].matches(" {4}( {4})?[a-zA-Z][\\w\\[\\] ]*\\([^()]*\\) \\{") && !lines[i].contains(" class ");
             if (head && !lines[i].trim().matches("(if|for|while|switch) .*")) {
                 String end = lines[i].replaceAll("\\S.*", "") + "}";
-                int last = i;
-                while (last < lines.length && !lines[last].equals(end)) {
-                    last++;
+                StringBuilder body = new StringBuilder();
+                for (int k = i + 1; k < lines.length && !lines[k].equals(end); k++) {
+                    body.append(lines[k]).append('\n');
                 }
-                methods++;
-                due(lines[i].trim() + " has at most sixty lines", last - i < 60);
+                String name = lines[i].replaceAll("\\(.*", "").replaceAll(".* ", "");
+                found.computeIfAbsent(name, any -> new ArrayList<>()).add(body.toString());
             }
         }
-        due("methods were found", methods > 80);
+        return found;
+    }
+
+    /** Rule 11: some sixty lines, eight calls deep; rule 8: what calls itself says how deep it is by an argument. */
+    private static void methodsAreShort() throws IOException {
+        Map<String, List<String>> bodies = bodies();
+        due("methods were found", bodies.size() > 80);
+        for (Map.Entry<String, List<String>> method : bodies.entrySet()) {
+            for (String body : method.getValue()) {
+                due(method.getKey() + " has at most sixty lines", body.split("\n").length <= 60);
+                due(method.getKey() + " does not call itself", method.getKey().equals("tryCuts")
+                    || !finds("\\b" + method.getKey() + "\\(", body) || method.getValue().size() > 1);
+            }
+        }
+        for (String call : FACE) {
+            String name = call.substring(0, call.indexOf('('));
+            int deep = depth(name, bodies, new ArrayList<>());
+            due(name + " goes " + deep + " deep", deep <= 8);
+        }
+    }
+
+    /** The longest chain of calls by their names; methods of one name are taken as one. */
+    private static int depth(String name, Map<String, List<String>> bodies, List<String> above) {
+        List<String> chain = new ArrayList<>(above);
+        chain.add(name);
+        int deepest = 0;
+        for (String body : bodies.getOrDefault(name, List.of())) {
+            for (String called : bodies.keySet()) {
+                if (!called.equals(name) && finds("\\b" + called + "\\(", body)) {
+                    due("no ring of calls: " + chain + " " + called, !chain.contains(called));
+                    deepest = Math.max(deepest, chain.contains(called) ? 0 : depth(called, bodies, chain));
+                }
+            }
+        }
+        return 1 + deepest;
     }
 
     private static void edges() throws ReflectiveOperationException {

@@ -75,6 +75,7 @@ public final class RoomTest {
 
     private static void small() throws ReflectiveOperationException {
         Set<Object> parts = reached(new StiltHeralds());
+        System.out.println(parts.size() + " objects with " + elements(parts) + " fields and elements");
         CHECK.due("at most 60 objects, found " + parts.size(), parts.size() <= 60 ? 1 : 0, 1);
         CHECK.due("at most 1,500 fields and elements, found " + elements(parts), elements(parts) <= 1500 ? 1 : 0, 1);
         for (Object o : parts) {
@@ -86,8 +87,8 @@ public final class RoomTest {
     private static void noBigger() throws ReflectiveOperationException {
         StiltHeralds x = new StiltHeralds();
         Set<Object> atFirst = reached(x);
-        for (int k = 0; k < 4; k++) {
-            Check.province(x, FULL_LAND);
+        for (int k = 0; k < 3; k++) {
+            CHECK.due("a full land", Check.province(x, FULL_LAND), 36);
             Check.province(x, "land 3 3;row 0 pond");
             allCalls(x);
         }
@@ -118,7 +119,13 @@ public final class RoomTest {
             x.judge();
             x.fits();
             x.track(k, 0);
+            x.told(10);
+            x.depth(k, k, 99);
+            x.man(k, k);
+            x.fault();
+            x.seed(k);
         }
+        x.tear();
     }
 
     /** What a call makes and drops can't be found from the object: so the source is looked at. */
