@@ -12,7 +12,6 @@ import java.util.Set;
 import java.util.TreeSet;
 import java.util.regex.Matcher;
 import java.util.regex.Pattern;
-import javax.tools.ToolProvider;
 
 /** What README.md says is so: its example answers what stands behind each call, its tables and names are all there are. */
 public final class ReadmeTest {
@@ -22,7 +21,7 @@ public final class ReadmeTest {
     private ReadmeTest() {
     }
 
-    public static void main(String[] args) throws IOException, ReflectiveOperationException {
+    public static void main(String[] args) throws IOException, ReflectiveOperationException, InterruptedException {
         String readme = Files.readString(Path.of("README.md"));
         example(block(readme));
         usesEveryCall(block(readme));
@@ -44,7 +43,7 @@ public final class ReadmeTest {
 
     // ---- the example
 
-    private static void example(String block) throws IOException, ReflectiveOperationException {
+    private static void example(String block) throws IOException, ReflectiveOperationException, InterruptedException {
         StringBuilder body = new StringBuilder();
         List<String> asked = new ArrayList<>();
         List<Integer> want = new ArrayList<>();
@@ -70,7 +69,7 @@ public final class ReadmeTest {
         return Character.isLetter(told.charAt(0)) ? StiltHeralds.class.getField(told).getInt(null) : Integer.parseInt(told);
     }
 
-    private static List<?> run(String body) throws IOException, ReflectiveOperationException {
+    private static List<?> run(String body) throws IOException, ReflectiveOperationException, InterruptedException {
         Path dir = Files.createTempDirectory("readme");
         Path file = dir.resolve("Example.java");
         Path made = dir.resolve("Example.class");
@@ -78,9 +77,10 @@ public final class ReadmeTest {
             Files.writeString(file, "public class Example {\n"
                 + "public static java.util.List<Integer> run() {\n"
                 + "java.util.List<Integer> answers = new java.util.ArrayList<>();\n" + body + "return answers;\n}\n}\n");
-            int exit = ToolProvider.getSystemJavaCompiler().run(null, null, null, "-d", dir.toString(),
-                "-cp", System.getProperty("java.class.path"), file.toString());
-            CHECK.due("README's example is compiled", exit, 0);
+            // the javac that .ci/run uses, and that README.md asks for
+            Process javac = new ProcessBuilder("javac", "-d", dir.toString(), "-cp", System.getProperty("java.class.path"),
+                file.toString()).inheritIO().start();
+            CHECK.due("README's example is compiled", javac.waitFor(), 0);
             try (URLClassLoader loader = new URLClassLoader(new URL[] {dir.toUri().toURL()})) {
                 return (List<?>) loader.loadClass("Example").getMethod("run").invoke(null);
             }
